@@ -543,7 +543,10 @@ public final class FellersOrder {
 
         void measureAnew(int job, int what, int v) {
             measures[what][job] = v;
-            renew();
+            // Nothing that is kept goes by the moments.
+            if (what != MOMENT) {
+                renew();
+            }
         }
 
         void bind(int a, int b) {
@@ -582,9 +585,19 @@ public final class FellersOrder {
             return (needed & ~set & ~aside) == 0;
         }
 
+        boolean mayComeNext(int set, int job) {
+            return (set >> job & 1) == 0 && (ahead[job] & ~set) == 0;
+        }
+
+        /** What a job adds to the cost, the moments taken for 0, if it comes next behind a length. */
+        int costNext(int begun, int job) {
+            return measures[WEIGHT][job] * (begun + measures[LENGTH][job]);
+        }
+
         int beginnings() {
             int found = 0;
-            for (int set = 0; set <= everyJob(); set++) {
+            int all = everyJob();
+            for (int set = 0; set <= all; set++) {
                 if (isBeginning(set, 0)) {
                     found++;
                 }
@@ -768,37 +781,39 @@ public final class FellersOrder {
             costBehind[all] = 0;
             ordersBehind[all] = 1;
             for (int set = all - 1; set >= 0; set--) {
-                costBehind[set] = NEVER;
-                ordersBehind[set] = 0;
                 if (yard.isBeginning(set, 0)) {
                     goOnFrom(yard, set);
+                } else {
+                    costBehind[set] = NEVER;
                 }
             }
             readBestRow(yard);
         }
 
         private void goOnFrom(Yard yard, int set) {
-            for (int job = 0; job < yard.jobs(); job++) {
-                if (mayComeNext(yard, set, job)) {
-                    int cost = costThrough(yard, set, job);
-                    int orders = ordersBehind[set | 1 << job];
-                    if (cost < costBehind[set]) {
-                        costBehind[set] = cost;
-                        ordersBehind[set] = orders;
-                    } else if (cost == costBehind[set]) {
-                        ordersBehind[set] += orders;
+            int jobs = yard.jobs();
+            int begun = yard.lengthOf(set);
+            int least = NEVER;
+            int orders = 0;
+            for (int job = 0; job < jobs; job++) {
+                if (yard.mayComeNext(set, job)) {
+                    int with = set | 1 << job;
+                    int cost = yard.costNext(begun, job) + costBehind[with];
+                    if (cost < least) {
+                        least = cost;
+                        orders = ordersBehind[with];
+                    } else if (cost == least) {
+                        orders += ordersBehind[with];
                     }
                 }
             }
+            costBehind[set] = least;
+            ordersBehind[set] = orders;
         }
 
-        private static boolean mayComeNext(Yard yard, int set, int job) {
-            return !hasBit(set, job) && (yard.aheadOf(job) & ~set) == 0;
-        }
-
-        private int costThrough(Yard yard, int set, int job) {
-            int with = set | 1 << job;
-            return yard.measure(job, WEIGHT) * yard.lengthOf(with) + costBehind[with];
+        private boolean isBestNext(Yard yard, int set, int job) {
+            return yard.mayComeNext(set, job)
+                    && yard.costNext(yard.lengthOf(set), job) + costBehind[set | 1 << job] == costBehind[set];
         }
 
         private void readBestRow(Yard yard) {
@@ -812,7 +827,7 @@ public final class FellersOrder {
 
         private int leastBestNext(Yard yard, int set) {
             for (int job = 0; job < yard.jobs() - 1; job++) {
-                if (mayComeNext(yard, set, job) && costThrough(yard, set, job) == costBehind[set]) {
+                if (isBestNext(yard, set, job)) {
                     return job;
                 }
             }
@@ -820,14 +835,15 @@ public final class FellersOrder {
         }
 
         /**
-         * Sets that no best order begins with lose their cost here, so that the sets above them see it:
-         * what has been read of the costs by then asks for no others, and no further row is needed.
+         * Goes up through the sets that best orders begin with. The other sets lose their cost on the way,
+         * which marks them without one more row: by now nothing asks for their costs any more.
          */
         private void findStanding(Yard yard) {
             for (int job = 0; job < yard.jobs(); job++) {
                 sometimesBehind[job] = 0;
             }
-            for (int set = 1; set <= yard.everyJob(); set++) {
+            int all = yard.everyJob();
+            for (int set = 1; set <= all; set++) {
                 if (costBehind[set] != NEVER) {
                     if (beginsBestOrder(yard, set)) {
                         noteStanding(yard, set);
@@ -841,9 +857,7 @@ public final class FellersOrder {
         private boolean beginsBestOrder(Yard yard, int set) {
             for (int job = 0; job < yard.jobs(); job++) {
                 int without = set & ~(1 << job);
-                if (hasBit(set, job) && costBehind[without] != NEVER
-                        && mayComeNext(yard, without, job)
-                        && costThrough(yard, without, job) == costBehind[without]) {
+                if (without != set && costBehind[without] != NEVER && isBestNext(yard, without, job)) {
                     return true;
                 }
             }
@@ -851,9 +865,11 @@ public final class FellersOrder {
         }
 
         private void noteStanding(Yard yard, int set) {
-            for (int job = 0; job < yard.jobs(); job++) {
-                if (hasBit(set, job)) {
-                    sometimesBehind[job] |= yard.everyJob() & ~set;
+            int jobs = yard.jobs();
+            int rest = yard.everyJob() & ~set;
+            for (int job = 0; job < jobs; job++) {
+                if ((set >> job & 1) == 1) {
+                    sometimesBehind[job] |= rest;
                 }
             }
         }
