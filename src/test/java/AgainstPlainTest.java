@@ -6,8 +6,9 @@ import java.util.Random;
 
 /** Long runs of calls, right and wrong ones, beside a slow model that takes the document by its words. */
 public final class AgainstPlainTest {
-    private static final int RUNS = 400;
-    private static final int CALLS = 512;
+    private static final int RUNS = 3000;
+    // Each call is followed by status(), some by a question, and the run by all questions: 512 at most.
+    private static final int CALLS = 50;
     private static final int[] STRANGE = {Integer.MIN_VALUE, -100000, -101, -2, -1, 12, 21, 101, 501, Integer.MAX_VALUE};
 
     private static int wrong = 0;
@@ -41,9 +42,36 @@ public final class AgainstPlainTest {
         for (int i = 0; i < CALLS && wrong < 20; i++) {
             oneCall(run, random, x, plain, mostJobs, reach);
             due(run, "status()", x.status(), plain.status);
-            if (i % 16 == 0) {
-                allQuestions(run, x, plain);
+            if (i % 8 == 7) {
+                oneQuestion(run, random, x, plain);
             }
+        }
+        allQuestions(run, x, plain);
+    }
+
+    /** Asked between changes, so that what is kept from an earlier question would show. */
+    private static void oneQuestion(int run, Random random, FellersOrder x, Plain plain) {
+        int job = random.nextInt(1 + plain.jobs.size());
+        int other = random.nextInt(1 + plain.jobs.size());
+        switch (random.nextInt(6)) {
+            case 0:
+                due(run, "least() midway", x.least(), plain.cost(plain.bestOrders().get(0), false));
+                break;
+            case 1:
+                due(run, "many() midway", x.many(), plain.bestOrders().size());
+                break;
+            case 2:
+                due(run, "fixed(" + job + ", " + other + ") midway", x.fixed(job, other), plain.fixed(plain.bestOrders(), job, other));
+                break;
+            case 3:
+                due(run, "block(" + job + ", 0) midway", x.block(job, 0), plain.block(job, 0));
+                break;
+            case 4:
+                due(run, "swap(" + job + ") midway", x.swap(job), plain.swap(job));
+                break;
+            default:
+                due(run, "count(4) midway", x.count(4), plain.count(4));
+                break;
         }
     }
 

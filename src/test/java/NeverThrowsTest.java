@@ -39,6 +39,7 @@ public final class NeverThrowsTest {
             if (random.nextInt(12) == 0) {
                 x.job(1 + i % 9, i % 7);
                 twin.job(1 + i % 9, i % 7);
+                continue;
             }
             Method call = calls.get(random.nextInt(calls.size()));
             Object[] with = new Object[call.getParameterCount()];

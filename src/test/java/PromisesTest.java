@@ -1,100 +1,40 @@
 /** Each promise by hand: ordinary inputs, the edges that the document names, and wrong inputs. */
-public final class PromisesTest {
-    private static final int LOW = Integer.MIN_VALUE;
-    private static final int HIGH = Integer.MAX_VALUE;
-    private static final int NO_PLACES = -1000000000;
-
-    private static int wrong = 0;
-    private static int promise = 0;
-
+public final class PromisesTest extends Checks {
     public static void main(String[] args) {
-        promise1NewObject();
-        promise2Job();
-        promise3Set();
-        promise4Lay();
-        promise5Free();
-        promise6Put();
-        promise7Clear();
-        promise8Told();
-        promise9Ahead();
-        promise10Count();
-        promise11Keeps();
-        promise12Why();
-        promise13Cost();
-        promise14Swap();
-        promise15Block();
-        promise16Least();
-        promise17Best();
-        promise18Many();
-        promise19Fixed();
-        promise20Series();
-        promise21Shows();
-        promise22Turned();
-        promise23Act();
-        promise24Trace();
-        promise25Sheet();
-        promise26Cell();
-        promise27FromSheet();
-        promise28Forge();
-        promise29Undo();
-        promise30Status();
-        System.out.println(wrong == 0 ? "all promises hold" : wrong + " answers are not as due");
-        if (wrong != 0) {
-            System.exit(1);
-        }
-    }
-
-    private static void due(String call, int got, int want) {
-        if (got != want) {
-            wrong++;
-            System.out.println("promise " + promise + ": " + call + " answered " + got + ", due is " + want);
-        }
-    }
-
-    private static void done(FellersOrder x, String call, int got, int want) {
-        due(call, got, want);
-        due("status() behind " + call, x.status(), 0);
-    }
-
-    private static void refused(FellersOrder x, String call, int got, int status) {
-        due(call, got, -1);
-        due("status() behind " + call, x.status(), status);
-    }
-
-    private static FellersOrder yard(int... lengthsAndWeights) {
-        FellersOrder x = new FellersOrder();
-        for (int i = 0; i < lengthsAndWeights.length; i += 2) {
-            x.job(lengthsAndWeights[i], lengthsAndWeights[i + 1]);
-        }
-        return x;
-    }
-
-    private static FellersOrder fullYard() {
-        FellersOrder x = new FellersOrder();
-        for (int i = 0; i < 12; i++) {
-            x.job(2, 2);
-        }
-        return x;
-    }
-
-    /** a ahead of c, b ahead of c and d: the least yard that is not series. */
-    private static FellersOrder crossing() {
-        FellersOrder x = yard(1, 1, 2, 2, 3, 3, 4, 4);
-        x.lay(0, 2);
-        x.lay(1, 2);
-        x.lay(1, 3);
-        return x;
-    }
-
-    private static void putAll(FellersOrder x, int... jobs) {
-        x.clear();
-        for (int job : jobs) {
-            x.put(job);
-        }
+        test("promise 1", PromisesTest::promise1NewObject);
+        test("promise 2", PromisesTest::promise2Job);
+        test("promise 3", PromisesTest::promise3Set);
+        test("promise 4", PromisesTest::promise4Lay);
+        test("promise 5", PromisesTest::promise5Free);
+        test("promise 6", PromisesTest::promise6Put);
+        test("promise 7", PromisesTest::promise7Clear);
+        test("promise 8", PromisesTest::promise8Told);
+        test("promise 9", PromisesTest::promise9Ahead);
+        test("promise 10", PromisesTest::promise10Count);
+        test("promise 11", PromisesTest::promise11Keeps);
+        test("promise 12", PromisesTest::promise12Why);
+        test("promise 13", PromisesTest::promise13Cost);
+        test("promise 14", PromisesTest::promise14Swap);
+        test("promise 15", PromisesTest::promise15Block);
+        test("promise 16", PromisesTest::promise16Least);
+        test("promise 17", PromisesTest::promise17Best);
+        test("promise 18", PromisesTest::promise18Many);
+        test("promise 19", PromisesTest::promise19Fixed);
+        test("promise 20", PromisesTest::promise20Series);
+        test("promise 21", PromisesTest::promise21Shows);
+        test("promise 22", PromisesTest::promise22Turned);
+        test("promise 23", PromisesTest::promise23Act);
+        test("promise 24", PromisesTest::promise24Trace);
+        test("promise 25", PromisesTest::promise25Sheet);
+        test("promise 26", PromisesTest::promise26Cell);
+        test("promise 27", PromisesTest::promise27FromSheet);
+        test("promise 28", PromisesTest::promise28Forge);
+        test("promise 29", PromisesTest::promise29Undo);
+        test("promise 30", PromisesTest::promise30Status);
+        finish();
     }
 
     private static void promise1NewObject() {
-        promise = 1;
         FellersOrder x = new FellersOrder();
         due("NONE", FellersOrder.NONE, -1);
         for (int what = 0; what <= 6; what++) {
@@ -114,7 +54,6 @@ public final class PromisesTest {
     }
 
     private static void promise2Job() {
-        promise = 2;
         FellersOrder x = new FellersOrder();
         done(x, "job(1, 0)", x.job(1, 0), 0);
         done(x, "job(100, 100)", x.job(100, 100), 1);
@@ -136,7 +75,6 @@ public final class PromisesTest {
     }
 
     private static void promise3Set() {
-        promise = 3;
         FellersOrder x = yard(3, 4, 5, 6);
         done(x, "set(0, 0, 100)", x.set(0, 0, 100), 3);
         done(x, "set(0, 0, 1)", x.set(0, 0, 1), 100);
@@ -159,7 +97,6 @@ public final class PromisesTest {
     }
 
     private static void promise4Lay() {
-        promise = 4;
         FellersOrder x = yard(1, 1, 1, 1, 1, 1);
         done(x, "lay(0, 1)", x.lay(0, 1), 1);
         done(x, "lay(1, 2)", x.lay(1, 2), 1);
@@ -177,7 +114,6 @@ public final class PromisesTest {
     }
 
     private static void promise5Free() {
-        promise = 5;
         FellersOrder x = yard(1, 1, 1, 1, 1, 1);
         x.lay(0, 1);
         x.lay(1, 2);
@@ -198,7 +134,6 @@ public final class PromisesTest {
     }
 
     private static void promise6Put() {
-        promise = 6;
         FellersOrder x = yard(1, 1, 1, 1);
         refused(x, "put(2)", x.put(2), 1);
         refused(x, "put(-1)", x.put(-1), 1);
@@ -219,7 +154,6 @@ public final class PromisesTest {
     }
 
     private static void promise7Clear() {
-        promise = 7;
         FellersOrder x = yard(1, 1, 1, 1);
         done(x, "clear()", x.clear(), 0);
         x.put(1);
@@ -232,7 +166,6 @@ public final class PromisesTest {
     }
 
     private static void promise8Told() {
-        promise = 8;
         FellersOrder x = yard(3, 4, 1, 9, 7, 0, 1, 0);
         x.lay(0, 1);
         x.lay(1, 2);
@@ -265,7 +198,6 @@ public final class PromisesTest {
     }
 
     private static void promise9Ahead() {
-        promise = 9;
         FellersOrder x = yard(1, 1, 1, 1, 1, 1, 1, 1);
         x.lay(2, 1);
         x.lay(1, 0);
@@ -292,7 +224,6 @@ public final class PromisesTest {
     }
 
     private static void promise10Count() {
-        promise = 10;
         FellersOrder x = crossing();
         x.put(1);
         x.act(2, 3, 1);
@@ -316,7 +247,6 @@ public final class PromisesTest {
     }
 
     private static void promise11Keeps() {
-        promise = 11;
         FellersOrder x = crossing();
         due("keeps() of an empty order", x.keeps(), 0);
         putAll(x, 1, 0, 3);
@@ -337,7 +267,6 @@ public final class PromisesTest {
     }
 
     private static void promise12Why() {
-        promise = 12;
         FellersOrder x = crossing();
         due("why(0), empty", x.why(0), -2);
         due("why(1), empty", x.why(1), 0);
@@ -369,7 +298,6 @@ public final class PromisesTest {
     }
 
     private static void promise13Cost() {
-        promise = 13;
         FellersOrder x = yard(3, 2, 4, 5, 1, 0);
         due("cost() of none", x.cost(), 0);
         putAll(x, 1, 0);
@@ -385,7 +313,6 @@ public final class PromisesTest {
     }
 
     private static void promise14Swap() {
-        promise = 14;
         FellersOrder x = yard(3, 2, 4, 5, 1, 7);
         due("swap(0) of none", x.swap(0), NO_PLACES);
         putAll(x, 0, 1, 2);
@@ -407,7 +334,6 @@ public final class PromisesTest {
     }
 
     private static void promise15Block() {
-        promise = 15;
         FellersOrder x = yard(3, 6, 1, 5, 4, 0, 2, 9, 1, 1);
         due("block(0, 0) of jobs apart", x.block(0, 0), 1 << 1);
         due("block(1, 0) of jobs apart", x.block(1, 0), 1 << 3);
@@ -441,7 +367,6 @@ public final class PromisesTest {
     }
 
     private static void promise16Least() {
-        promise = 16;
         FellersOrder x = yard(3, 1, 1, 3);
         due("least()", x.least(), 3 * 1 + 1 * 4);
         x.set(1, 2, 100);
@@ -457,7 +382,6 @@ public final class PromisesTest {
     }
 
     private static void promise17Best() {
-        promise = 17;
         FellersOrder x = yard(3, 6, 1, 5, 4, 0, 2, 9, 1, 1);
         x.lay(2, 3);
         x.lay(2, 1);
@@ -481,7 +405,6 @@ public final class PromisesTest {
     }
 
     private static void promise18Many() {
-        promise = 18;
         due("many() of none", new FellersOrder().many(), 1);
         due("many() of all alike", fullYard().many(), 479001600);
         FellersOrder x = crossing();
@@ -497,7 +420,6 @@ public final class PromisesTest {
     }
 
     private static void promise19Fixed() {
-        promise = 19;
         FellersOrder x = yard(1, 2, 1, 1, 2, 2, 3, 0);
         due("fixed(0, 1), by ratio", x.fixed(0, 1), 1);
         due("fixed(1, 0), by ratio", x.fixed(1, 0), 0);
@@ -518,7 +440,6 @@ public final class PromisesTest {
     }
 
     private static void promise20Series() {
-        promise = 20;
         FellersOrder x = crossing();
         due("series() of a crossing", x.series(), 0);
         x.lay(0, 3);
@@ -536,7 +457,6 @@ public final class PromisesTest {
     }
 
     private static void promise21Shows() {
-        promise = 21;
         FellersOrder x = yard(1, 1, 1, 1, 1, 1, 1, 1, 1, 1);
         due("shows(0) of series", x.shows(0), -1);
         x.lay(3, 4);
@@ -553,7 +473,6 @@ public final class PromisesTest {
     }
 
     private static void promise22Turned() {
-        promise = 22;
         due("turned() of none", new FellersOrder().turned(), 0);
         FellersOrder x = yard(3, 1, 1, 3);
         x.lay(0, 1);
@@ -565,7 +484,6 @@ public final class PromisesTest {
     }
 
     private static void promise23Act() {
-        promise = 23;
         FellersOrder x = yard(3, 5, 1, 4, 6, 0, 1, 2);
         x.lay(0, 1);
         int[][] want = {
@@ -594,43 +512,33 @@ public final class PromisesTest {
         refused(x, "act(HIGH, LOW, 1)", x.act(HIGH, LOW, 1), 1);
     }
 
-    private static void trace(FellersOrder x, int... bodies) {
-        due("count(5)", x.count(5), bodies.length);
-        for (int i = 0; i < bodies.length; i++) {
-            due("trace(" + i + ")", x.trace(i), bodies[i]);
-        }
-        due("trace behind the last", x.trace(bodies.length), -1);
-    }
-
     private static void promise24Trace() {
-        promise = 24;
         FellersOrder x = yard(3, 5, 1, 4, 6, 0, 1, 2);
         x.lay(0, 1);
-        trace(x);
+        traceIs(x);
         x.act(0, 3, 1);
-        trace(x, 13, 11, 10, 12);
+        traceIs(x, 13, 11, 10, 12);
         x.act(1, 3, 1);
-        trace(x, 21, 13, 11, 20, 10, 12);
+        traceIs(x, 21, 13, 11, 20, 10, 12);
         x.act(2, 3, 1);
-        trace(x, 13, 30, 11, 10, 12);
+        traceIs(x, 13, 30, 11, 10, 12);
         x.act(3, 3, 1);
-        trace(x, 21, 13, 11, 41, 20, 10, 12, 40, 12);
+        traceIs(x, 21, 13, 11, 41, 20, 10, 12, 40, 12);
         x.set(3, 2, 1);
         x.act(3, 3, 1);
-        trace(x, 51, 12, 13, 11, 50, 10, 12);
+        traceIs(x, 51, 12, 13, 11, 50, 10, 12);
         x.act(9, 0, 0);
-        trace(x, 51, 12, 13, 11, 50, 10, 12);
+        traceIs(x, 51, 12, 13, 11, 50, 10, 12);
         x.undo();
-        trace(x, 51, 12, 13, 11, 50, 10, 12);
+        traceIs(x, 51, 12, 13, 11, 50, 10, 12);
         x.act(0, 2, 1);
-        trace(x, 12);
+        traceIs(x, 12);
         due("trace(-1)", x.trace(-1), -1);
         due("trace(HIGH)", x.trace(HIGH), -1);
         due("trace(LOW)", x.trace(LOW), -1);
     }
 
     private static void promise25Sheet() {
-        promise = 25;
         FellersOrder x = new FellersOrder();
         done(x, "sheet(0, 0, 0)", x.sheet(0, 0, 0), 1);
         refused(x, "cell(0, 0, 1)", x.cell(0, 0, 1), 12);
@@ -656,7 +564,6 @@ public final class PromisesTest {
     }
 
     private static void promise26Cell() {
-        promise = 26;
         FellersOrder x = new FellersOrder();
         x.sheet(0, 0, 3);
         x.sheet(1, 1, 3);
@@ -684,7 +591,6 @@ public final class PromisesTest {
     }
 
     private static void promise27FromSheet() {
-        promise = 27;
         FellersOrder x = new FellersOrder();
         for (int sort = 0; sort < 3; sort++) {
             x.sheet(sort, sort, 4);
@@ -728,7 +634,6 @@ public final class PromisesTest {
     }
 
     private static void promise28Forge() {
-        promise = 28;
         FellersOrder x = yard(1, 1, 2, 2, 1, 3);
         x.sheet(0, 0, 6);
         x.sheet(1, 1, 8);
@@ -803,7 +708,6 @@ public final class PromisesTest {
     }
 
     private static void promise29Undo() {
-        promise = 29;
         FellersOrder x = new FellersOrder();
         refused(x, "undo() of nothing", x.undo(), 3);
         x.job(3, 4);
@@ -858,7 +762,6 @@ public final class PromisesTest {
     }
 
     private static void promise30Status() {
-        promise = 30;
         FellersOrder x = yard(1, 1);
         x.put(5);
         x.told(0, 0);
