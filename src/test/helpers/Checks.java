@@ -3,6 +3,8 @@ abstract class Checks {
     static final int LOW = Integer.MIN_VALUE;
     static final int HIGH = Integer.MAX_VALUE;
     static final int NO_PLACES = -1000000000;
+    /** Numbers that are no job's in a yard of three. */
+    static final int[] NO_JOBS_OF_3 = {-1, 3, 11, 12, 32, LOW, HIGH};
 
     private static int tests = 0;
     private static int wrong = 0;

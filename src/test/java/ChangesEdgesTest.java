@@ -1,7 +1,5 @@
 /** The edges that promises 1 to 7, 29 and 30 name, a test for each sentence. */
 public final class ChangesEdgesTest extends Checks {
-    private static final int[] NO_JOBS_OF_3 = {-1, 3, 11, 12, 32, LOW, HIGH};
-
     public static void main(String[] args) {
         test("1: No JOBS", ChangesEdgesTest::newHasNoJobs);
         test("1: an empty ORDER", ChangesEdgesTest::newHasAnEmptyOrder);
@@ -34,6 +32,7 @@ public final class ChangesEdgesTest extends Checks {
         test("29: undo: of set", ChangesEdgesTest::undoOfSet);
         test("29: undo: of lay", ChangesEdgesTest::undoOfLay);
         test("29: undo: of free", ChangesEdgesTest::undoOfFree);
+        test("29: undo: what was asked before is asked anew", ChangesEdgesTest::undoAndAskAnew);
         test("30: status: of a new object", ChangesEdgesTest::statusOfANewObject);
         test("30: status: 0 behind all that is done", ChangesEdgesTest::statusBehindDone);
         test("30: status: each number", ChangesEdgesTest::statusBehindRefusals);
@@ -444,6 +443,48 @@ public final class ChangesEdgesTest extends Checks {
         due("ahead(0, 2)", x.ahead(0, 2), 1);
         due("count(1)", x.count(1), 2);
         due("count(6)", x.count(6), 5);
+    }
+
+    /** The first two jobs of a yard, with 7 the least cost and 1 ahead of 0. */
+    private static void twoJobsAnswer(FellersOrder x) {
+        due("least()", x.least(), 3 * 1 + 1 * 4);
+        due("many()", x.many(), 1);
+        due("best(0)", x.best(0), 1);
+        due("best(1)", x.best(1), 0);
+        due("best(2)", x.best(2), -1);
+        due("fixed(1, 0)", x.fixed(1, 0), 1);
+        due("block(0, 0)", x.block(0, 0), 2);
+        due("count(3)", x.count(3), 2);
+        due("count(4)", x.count(4), 4);
+        due("turned()", x.turned(), 7);
+        due("series()", x.series(), 1);
+    }
+
+    private static void undoAndAskAnew() {
+        FellersOrder x = yard(3, 1, 1, 3);
+        twoJobsAnswer(x);
+        x.job(1, 100);
+        due("least() of three", x.least(), 100 + 3 * 2 + 1 * 5);
+        due("fixed(2, 1) of three", x.fixed(2, 1), 1);
+        due("count(3) of three", x.count(3), 3);
+        x.undo();
+        twoJobsAnswer(x);
+        x.lay(0, 1);
+        due("least(), laid", x.least(), 1 * 3 + 3 * 4);
+        due("fixed(0, 1), laid", x.fixed(0, 1), 1);
+        due("count(3), laid", x.count(3), 1);
+        x.undo();
+        twoJobsAnswer(x);
+        x.set(0, 1, 100);
+        due("least(), heavier", x.least(), 100 * 3 + 3 * 4);
+        due("best(0), heavier", x.best(0), 0);
+        x.undo();
+        twoJobsAnswer(x);
+        x.set(1, 0, 100);
+        due("least(), longer", x.least(), 1 * 3 + 3 * 103);
+        due("block(0, 0), longer", x.block(0, 0), 1);
+        x.undo();
+        twoJobsAnswer(x);
     }
 
     private static void statusOfANewObject() {

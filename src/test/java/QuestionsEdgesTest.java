@@ -1,7 +1,5 @@
 /** The edges that promises 8 to 22 and 24 name, a test for each sentence. */
 public final class QuestionsEdgesTest extends Checks {
-    private static final int[] NO_JOBS_OF_3 = {-1, 3, 11, 12, 32, LOW, HIGH};
-
     public static void main(String[] args) {
         test("8: told: no such JOB", QuestionsEdgesTest::toldOfNoJob);
         test("8: told: no such what", QuestionsEdgesTest::toldOfNoWhat);
@@ -519,6 +517,16 @@ public final class QuestionsEdgesTest extends Checks {
         last.lay(3, 9);
         last.lay(3, 2);
         showsAre(last, 3, 4, 9, 0);
+        FellersOrder zeroAsB = alike(4);
+        zeroAsB.lay(1, 2);
+        zeroAsB.lay(0, 2);
+        zeroAsB.lay(0, 3);
+        showsAre(zeroAsB, 1, 0, 2, 3);
+        FellersOrder zeroAsC = alike(4);
+        zeroAsC.lay(1, 0);
+        zeroAsC.lay(2, 0);
+        zeroAsC.lay(2, 3);
+        showsAre(zeroAsC, 1, 2, 0, 3);
     }
 
     private static void turnedOfNoWeight() {

@@ -37,6 +37,7 @@ public final class TermsEdgesTest extends Checks {
         test("ACTS: 32 bits, wrapping: LATE", TermsEdgesTest::lateBodiesWrap);
         test("the body of the JOB's KIND (as it is now)", TermsEdgesTest::kindAsItIsNow);
         test("THE TRACE: of the latest act()", TermsEdgesTest::traceOfTheLatestAct);
+        test("THE TRACE: what stands further left is worked out first", TermsEdgesTest::traceFromTheLeft);
         test("THE TRACE: the first 50 are kept", TermsEdgesTest::longestTrace);
         test("SHEETS 0 .. 5", TermsEdgesTest::sixSheets);
         test("SHEETS missing (as all are at first)", TermsEdgesTest::missingAtFirst);
@@ -519,6 +520,19 @@ public final class TermsEdgesTest extends Checks {
         traceIs(x, 12);
         x.act(1, 4, 1);
         traceIs(x, 12);
+    }
+
+    private static void traceFromTheLeft() {
+        FellersOrder x = yard(1, 4, 5, 5, 6, 0);
+        x.act(0, 0, 1);
+        traceIs(x, 41, 20, 10, 12);
+        x.act(1, 3, 1);
+        traceIs(x, 13, 11, 10, 12);
+        x.act(2, 3, 1);
+        traceIs(x, 13, 30, 11, 10, 12);
+        x.set(0, 2, 500);
+        x.act(0, 3, 1);
+        traceIs(x, 51, 12, 13, 11, 50, 10, 12);
     }
 
     private static void longestTrace() {
