@@ -5,6 +5,7 @@ import java.lang.reflect.Modifier;
 import java.nio.file.Files;
 import java.nio.file.Path;
 import java.util.Arrays;
+import java.util.List;
 import java.util.Set;
 import java.util.TreeSet;
 import java.util.regex.Matcher;
@@ -24,12 +25,17 @@ public final class FaceTest {
         "System", "Thread", "Random", "hashCode", "toString", "static \\{",
     };
 
+    private static final Set<Class<?>> CONSTANTS = Set.of(int.class, long.class, boolean.class, char.class,
+            String.class, int[].class, long[].class, char[].class, byte[].class);
+    private static final int MOST_LINES = 60;
+
     private static int wrong = 0;
 
     public static void main(String[] args) throws IOException {
         members();
         classesInside();
         words();
+        lengths();
         System.out.println(wrong == 0 ? "the face is as due" : wrong + " faults of the face");
         if (wrong != 0) {
             System.exit(1);
@@ -74,8 +80,12 @@ public final class FaceTest {
             boolean open = Modifier.isPublic(field.getModifiers());
             check(open == field.getName().equals("NONE"), field + " is not as visible as due");
             check(open || Modifier.isPrivate(field.getModifiers()), field + " is neither public nor private");
-            check(!Modifier.isStatic(field.getModifiers()) || Modifier.isFinal(field.getModifiers()), field + " is not final");
+            check(!Modifier.isStatic(field.getModifiers()) || isConstant(field), field + " is no constant");
         }
+    }
+
+    private static boolean isConstant(Field field) {
+        return Modifier.isFinal(field.getModifiers()) && CONSTANTS.contains(field.getType());
     }
 
     private static void classesInside() {
@@ -87,7 +97,7 @@ public final class FaceTest {
             int own = 0;
             for (Field field : type.getDeclaredFields()) {
                 boolean constant = Modifier.isStatic(field.getModifiers());
-                check(!constant || Modifier.isFinal(field.getModifiers()), field + " is not final");
+                check(!constant || isConstant(field), field + " is no constant");
                 own += constant ? 0 : 1;
             }
             check(own <= 20, type + " has " + own + " fields");
@@ -105,5 +115,21 @@ public final class FaceTest {
             check(!matcher.find(), SOURCE + " has " + word);
         }
         check(!code.contains("->") && !code.contains("::") && !code.contains("Exact"), SOURCE + " has ->, :: or Exact");
+    }
+
+    /** A method begins with a line that ends with ") {" and ends with the brace that stands as far in. */
+    private static void lengths() throws IOException {
+        List<String> lines = Files.readAllLines(Path.of(SOURCE));
+        int methods = 0;
+        for (int i = 0; i < lines.size(); i++) {
+            Matcher begin = Pattern.compile("( {4}| {8})[a-zA-Z].*\\) \\{").matcher(lines.get(i));
+            boolean inside = begin.matches() && !lines.get(i).matches(" *(if|for|while|switch|do|else)\\b.*");
+            if (inside) {
+                methods++;
+                int length = lines.subList(i, lines.size()).indexOf(begin.group(1) + "}") + 1;
+                check(length > 0 && length <= MOST_LINES, lines.get(i).trim() + " has " + length + " lines");
+            }
+        }
+        check(methods > FACE.length, "only " + methods + " methods were found");
     }
 }
